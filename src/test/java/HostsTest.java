@@ -136,6 +136,11 @@ public final class HostsTest {
         x.renumber(0, 15);
         Due.is("outside", x.request(1), 4);
         Due.is("the same distance", x.request(0), 5);
+        x = Due.with("pool 0 10;net 1 12;net 0 12;host 0 0;host 1 0;");
+        x.request(0);
+        Due.is("in the second block", x.request(1), 18);
+        Due.is("to the third block", x.renumber(0, 12), 32);
+        Due.is("the same distance", x.request(1), 34);
     }
 
     private static void promise22Capacity() {
@@ -257,6 +262,13 @@ public final class HostsTest {
         Due.is("a new one", x.host(0, 2), -9);
         x.request(0);
         Due.is("a new one", x.host(0, 3), 1);
+        x.pass(1);
+        x.undo();
+        x.request(0);
+        x.undo();
+        Due.is("undo restores the time of a new lease", x.host(0, 3), 1);
+        Due.is("undo restores the time of an old lease", x.host(0, 5), 500);
+        Due.is("undo restores the overlap", x.network(0, 4), 500);
     }
 
     private static void promise27() {

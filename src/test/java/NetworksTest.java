@@ -189,6 +189,10 @@ public final class NetworksTest {
         x.pass(100);
         Due.is("no smaller beginning", x.wave(12), -2);
         Due.is("a new object", new PoolRenumberer().wave(1), -2);
+        x = Due.with("pool 0 10;net 1 12;net 0 12;");
+        x.release(1);
+        Due.is("network 0 alone", x.wave(1), 1);
+        Due.is("network 0 alone", x.network(0, 0), 0);
     }
 
     private static void promise17Order() {
@@ -259,5 +263,7 @@ public final class NetworksTest {
         Due.is("behind it", x.owner(96), -9);
         x.pass(100);
         Due.is("the old block is given up", x.owner(64), -9);
+        Due.is("undo", x.undo(), 2);
+        Due.is("the old block is back", x.owner(64), 7);
     }
 }

@@ -7,6 +7,7 @@ public final class PoolsTest {
         promise4();
         promise4ErrorPositions();
         promise4ReplacesAll();
+        promise4AfterAWave();
         promise5();
         promise6();
         promise7();
@@ -98,6 +99,9 @@ public final class PoolsTest {
         position("pool 0 10 10;", 10);
         position("pool pool", 5);
         position("poolx 0 10;", 0);
+        position("bool 0 10;", 0);
+        position("pool 0 10;get 0 12;", 10);
+        position("poo 0 10;", 0);
         position("5 pool", 0);
         position("pool\t0 10;", 4);
         position("pool 65536 10;", 5);
@@ -124,6 +128,13 @@ public final class PoolsTest {
         position("pool 0 10;net 0 12;host 0 0;host 0 0;", 33);
         position("pool 0 10;net 0 12;host 0 0 stick;", 28);
         position("pool 0 10;net 0 12;host 0 0 stickyy;", 28);
+        position("pool 0 10;net 0 12;host 0 0 stickyz;", 28);
+        position("pool 0 10;net 0 12;host 0 0 stickya;", 28);
+        position("pool 0 10;net 0 12;host 0 0 sticky{;", 34);
+        position("pool 0 10;net 0 12;host 0 0 sticky`;", 34);
+        position("pool 0 10;net 0 12;host 0 0 sticky9;", 34);
+        position("pool 0 10/;", 9);
+        position("pool 0 10:;", 9);
         position("pool 0 10;net 0 12;host 0 0 sticky sticky;", 35);
         position("pool 0 10;net 0 12;host 0 0 sticky", 34);
         position("pool 0 10;net 0 12;host 0 0", 27);
@@ -174,6 +185,23 @@ public final class PoolsTest {
         Due.is("lease again", x.count(5), 1);
     }
 
+    private static void promise4AfterAWave() {
+        PoolRenumberer x = Due.with("pool 0 10;net 0 12;net 1 12;host 0 1 sticky;policy 2;");
+        x.setTimes(7, 0);
+        x.pass(3);
+        x.request(0);
+        x.setPolicy(0);
+        x.release(0);
+        Due.is("wave", x.wave(12), 1);
+        Due.is("cut", x.count(6), 1);
+        Due.is("load", Due.load(x, "pool 64 10;"), 1);
+        int[] want = {0, 1, 0, 0, 0, 0, 0, 64, 6};
+        for (int what = 0; what <= 8; what++) {
+            Due.is("count(" + what + ") after a wave and a load", x.count(what), want[what]);
+        }
+        Due.is("times after a wave and a load", x.setTimes(60, 100), 0);
+    }
+
     private static void promise5() {
         PoolRenumberer x = new PoolRenumberer();
         Due.is("begin -1", x.addPool(-1, 10), -1);
@@ -207,7 +235,6 @@ public final class PoolsTest {
         Due.is("moved down, length", x.pool(1, 1), 14);
         Due.is("gone", x.pool(2, 0), -1);
         Due.is("the last", x.removePool(1), 1);
-        x.renumber(0, 14);
         Due.is("a new one", x.addPool(4, 14), 1);
         Due.is("renumber", x.renumber(0, 16), 4);
         Due.is("an old block is assigned", x.removePool(0), -2);
@@ -218,6 +245,14 @@ public final class PoolsTest {
         x.release(0);
         Due.is("all gone", x.removePool(0), 0);
         Due.is("none", x.removePool(0), -1);
+        x = Due.with("pool 0 11;pool 64 12;pool 128 13;pool 192 14;");
+        Due.is("the first of four", x.removePool(0), 3);
+        for (int pool = 0; pool < 3; pool++) {
+            Due.is("its begin", x.pool(pool, 0), 64 + 64 * pool);
+            Due.is("its length", x.pool(pool, 1), 12 + pool);
+        }
+        Due.is("beyond", x.removePool(3), -1);
+        Due.is("the next one", x.addPool(0, 10), 3);
     }
 
     private static void promise7() {

@@ -212,5 +212,33 @@ public final class RoutesTest {
         Due.is("undo", x.undo(), 5);
         Due.is("before the wave", x.network(1, 0), 16);
         Due.is("no old block", x.network(1, 2), -9);
+        everyPart();
+    }
+
+    /** A renewal in between must leave nothing behind: neither an address nor a time nor a length. */
+    private static void everyPart() {
+        PoolRenumberer x = Due.with("pool 0 10;net 0 13;net 1 12;host 0 0;host 1 0 sticky;");
+        x.request(0);
+        x.request(1);
+        x.pass(5);
+        x.renumber(0, 12);
+        x.request(0);
+        x.pass(1);
+        x.request(0);
+        x.request(1);
+        x.pass(500);
+        x.renumber(0, 14);
+        Due.is("undo", x.undo(), 5);
+        Due.is("undo", x.undo(), 4);
+        Due.is("undo", x.undo(), 3);
+        Due.is("undo", x.undo(), 2);
+        int[] network = {32, 12, 0, 13, 105, 2};
+        int[] first = {0, 0, 33, 65, 1, 60};
+        int[] second = {0, 1, -9, -9, 2, 60};
+        for (int what = 0; what <= 5; what++) {
+            Due.is("network(0, " + what + ") after undo", x.network(0, what), network[what]);
+            Due.is("host(0, " + what + ") after undo", x.host(0, what), first[what]);
+            Due.is("host(1, " + what + ") after undo", x.host(1, what), second[what]);
+        }
     }
 }
