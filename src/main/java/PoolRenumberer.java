@@ -32,6 +32,8 @@ public final class PoolRenumberer {
     private static final int FREE_MOST = USED_MOST * (LONGEST - POOL_SHORTEST) + POOLS;
     /** Stands for a beginning, an address or a network that is not there. */
     private static final int ABSENT = -1;
+    /** Later than any lease or overlap can end. */
+    private static final int NEVER = TIME_MOST + LEASE_TIME_MOST + OVERLAP_TIME_MOST;
 
     private static final int TOKEN_WRONG = 0;
     private static final int TOKEN_END = 1;
@@ -373,7 +375,7 @@ public final class PoolRenumberer {
 
     public int nextEvent() {
         int earliest = Math.min(state.hosts.firstEnd(), state.space.firstOverlapEnd());
-        return earliest == Integer.MAX_VALUE ? NONE : earliest;
+        return earliest == NEVER ? NONE : earliest;
     }
 
     public int count(int what) {
@@ -773,7 +775,7 @@ public final class PoolRenumberer {
         }
 
         int firstOverlapEnd() {
-            int earliest = Integer.MAX_VALUE;
+            int earliest = NEVER;
             for (int network = 0; network < NETWORKS; network++) {
                 if (hasOld(network)) {
                     earliest = Math.min(earliest, oldEnd[network]);
@@ -939,7 +941,7 @@ public final class PoolRenumberer {
         }
 
         int firstEnd() {
-            int earliest = Integer.MAX_VALUE;
+            int earliest = NEVER;
             for (int host = 0; host < HOSTS; host++) {
                 if (newAddress[host] != ABSENT) {
                     earliest = Math.min(earliest, newUntil[host]);
