@@ -28,6 +28,9 @@ public final class LanguageTest {
         "fragmentationAfter 1", "bestMove 0", "makePlan 1", "plan 2", "undo 0",
     };
     private static final int DEEPEST = 8;
+    /** What rule 4 allows, as far as the class uses it. */
+    private static final Set<String> LIBRARY = Set.of("java/lang/Object.<init>", "java/lang/String.length",
+            "java/lang/String.charAt", "java/lang/Math.min", "java/lang/System.arraycopy", "java/util/Arrays.fill");
 
     /** What each method calls, and which ones make objects. */
     private static final Map<String, Set<String>> CALLS = new LinkedHashMap<>();
@@ -35,10 +38,12 @@ public final class LanguageTest {
 
     public static void main(String[] args) throws Exception {
         face();
+        faceOfTheDocument();
         constants();
         words();
         methodLengths();
         readCode();
+        library();
         noObjectsInCalls();
         depth();
         Due.end();
@@ -70,6 +75,19 @@ public final class LanguageTest {
                 boolean taken = Arrays.stream(FACE).anyMatch(f -> f.startsWith(method.getName() + " "));
                 Due.isTrue(method + " bears a name of its own", !taken);
             }
+        }
+    }
+
+    /** Names of parameters and the order too, which reflection does not tell; and nothing else is public. */
+    private static void faceOfTheDocument() throws Exception {
+        Matcher block = Pattern.compile("```java\n(.*?)```", Pattern.DOTALL).matcher(Files.readString(Path.of("../shared/DOC.md")));
+        Due.isTrue("the document has a face", block.find());
+        List<String> due = block.group(1).lines().filter(l -> l.contains("public")).map(l -> l.replaceAll("[;{]", "").strip()).toList();
+        List<String> told = Files.readString(Path.of(SOURCE)).lines().filter(l -> l.matches("\\s*public\\b.*"))
+                .map(l -> l.replaceAll("[;{]", "").strip()).toList();
+        Due.is("public members", told.size(), due.size());
+        for (int i = 0; i < due.size() && i < told.size(); i++) {
+            Due.isTrue("the face has " + due.get(i) + ", not " + told.get(i), due.get(i).equals(told.get(i)));
         }
     }
 
@@ -157,6 +175,14 @@ public final class LanguageTest {
             }
         }
         Due.isTrue("the code was read", CALLS.containsKey("PoolRenumberer.undo"));
+    }
+
+    private static void library() {
+        for (Map.Entry<String, Set<String>> method : CALLS.entrySet()) {
+            for (String called : method.getValue()) {
+                Due.isTrue(method.getKey() + " may call " + called, called.startsWith("PoolRenumberer") || LIBRARY.contains(called));
+            }
+        }
     }
 
     /** All rows are made in constructors, because all calls of a run live in one room. */

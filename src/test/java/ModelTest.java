@@ -1,9 +1,11 @@
 import java.util.Random;
 
-/** Runs of calls, drawn from fixed seeds, on the class and on the Model: every answer must be the same. */
+/** Runs of calls and texts to load, drawn from fixed seeds, on the class and on the Model: every answer is the same. */
 public final class ModelTest {
     private static final int RUNS = 160;
     private static final int CALLS = 512;
+    /** Texts for each run: far more than the runs themselves load. */
+    private static final int TEXTS = 20;
 
     private final Random random;
     private final PoolRenumberer x = new PoolRenumberer();
@@ -16,7 +18,7 @@ public final class ModelTest {
 
     private ModelTest(int seed) {
         random = new Random(seed);
-        shortestPool = seed % 3 == 0 ? 4 : seed % 3 == 1 ? 9 : 11;
+        shortestPool = Math.floorMod(seed, 3) == 0 ? 4 : Math.floorMod(seed, 3) == 1 ? 9 : 11;
         manyErrors = seed % 5 == 0;
     }
 
@@ -25,6 +27,9 @@ public final class ModelTest {
         int from = args.length > 1 ? Integer.parseInt(args[1]) : 0;
         for (int seed = from; seed < from + runs && !Due.anyWrong(); seed++) {
             new ModelTest(seed).run();
+            for (int text = 0; text < TEXTS && !Due.anyWrong(); text++) {
+                new ModelTest(-1 - seed * TEXTS - text).loadOne();
+            }
         }
         Due.end();
     }
@@ -36,6 +41,18 @@ public final class ModelTest {
                 look();
             }
         }
+        if (failed) {
+            System.out.println(told);
+        }
+    }
+
+    /** A text on a new object, and what it has set up. */
+    private void loadOne() {
+        text();
+        look();
+        int policy = number(0, 3);
+        due("setPolicy(" + policy + ")", x.setPolicy(policy), m.setPolicy(policy));
+        due("clearText()", x.clearText(), m.clearText());
         if (failed) {
             System.out.println(told);
         }
